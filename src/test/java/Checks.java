@@ -1,0 +1,34 @@
+/** Counts and prints the answers that are not as due. */
+final class Checks {
+    private int wrong;
+    private int asked;
+
+    void due(String what, long got, long want) {
+        asked++;
+        if (got != want) {
+            wrong++;
+            if (wrong <= 40) {
+                System.out.println(what + " answered " + got + ", due is " + want);
+            }
+        }
+    }
+
+    void due(String what, boolean got, boolean want) {
+        due(what, got ? 1 : 0, want ? 1 : 0);
+    }
+
+    void due(String what, String got, String want) {
+        asked++;
+        if (!got.equals(want)) {
+            wrong++;
+            System.out.println(what + " answered " + got + ", due is " + want);
+        }
+    }
+
+    void end() {
+        System.out.println(asked + " answers, " + wrong + " not as due");
+        if (wrong != 0 || asked == 0) {
+            System.exit(1);
+        }
+    }
+}
