@@ -132,7 +132,7 @@ public final class PackFrames {
     }
 
     private int placeBehindSkip(int place) {
-        if (wireRow.sizeOrByte(place) != SKIP_SIGN || place + 1 >= wireRow.size) {
+        if (wireRow.bytes[place] != SKIP_SIGN || place + 1 >= wireRow.size) {
             return NONE;
         }
         int behind = place + 2 + wireRow.bytes[place + 1];
@@ -348,8 +348,10 @@ public final class PackFrames {
                 for (int i = 0; i <= n; i++) {
                     if (weights[i] == weight) {
                         starts[i] = cell;
-                        cell += cellsOf(i);
-                        Arrays.fill(owners, starts[i], cell, i);
+                        int behind = cell + cellsOf(i);
+                        for (; cell < behind && cell < owners.length; cell++) {
+                            owners[cell] = i;
+                        }
                     }
                 }
             }
@@ -497,7 +499,7 @@ public final class PackFrames {
             if (i == 1) {
                 return;
             }
-            if (i > 2 || value > 3) {
+            if (i > 2) {
                 r3 = r2;
             }
             r2 = r1;
@@ -558,15 +560,18 @@ public final class PackFrames {
 
         /** Takes n numbers 0 .. 15, two from a byte; a lower half that is left must be 0. */
         void takeHalves(int[] numbers, int n) {
-            for (int i = 0; i < n; i += 2) {
-                int b = takeByte();
-                numbers[i] = b >> 4;
-                if (i + 1 < n) {
-                    numbers[i + 1] = b & 15;
-                } else if ((b & 15) != 0) {
-                    sound = false;
-                }
+            if ((n + 1) / 2 > limit - place) {
+                sound = false;
+                return;
             }
+            for (int i = 0; i < n; i++) {
+                int b = row.bytes[place + i / 2];
+                numbers[i] = i % 2 == 0 ? b >> 4 : b & 15;
+            }
+            if (n % 2 == 1 && (row.bytes[place + n / 2] & 15) != 0) {
+                sound = false;
+            }
+            place += (n + 1) / 2;
         }
 
         /** The next bytes become the STREAM from which bits are taken. */

@@ -1,16 +1,12 @@
 /** Counts and prints the answers that are not as due. */
 final class Checks {
+    private static final int PRINTED = 40;
+
     private int wrong;
     private int asked;
 
     void due(String what, long got, long want) {
-        asked++;
-        if (got != want) {
-            wrong++;
-            if (wrong <= 40) {
-                System.out.println(what + " answered " + got + ", due is " + want);
-            }
-        }
+        due(what, Long.toString(got), Long.toString(want));
     }
 
     void due(String what, boolean got, boolean want) {
@@ -21,6 +17,9 @@ final class Checks {
         asked++;
         if (!got.equals(want)) {
             wrong++;
+            if (wrong > PRINTED) {
+                return;
+            }
             System.out.println(what + " answered " + got + ", due is " + want);
         }
     }
