@@ -12,6 +12,7 @@ public final class PackTest {
         twoMatches();
         matchesAndWays();
         tree();
+        deepestTree();
         treeOrPlain();
         literalLimit();
         packsThatAreNotShorter();
@@ -99,6 +100,21 @@ public final class PackTest {
         // a 5, b 3, c 4: b and c are joined, then a: weights 2, 1, 1. Cells b 0, c 1, a 2 and 3.
         packs("aabbccacbaac", Bytes.text("aabbccacbaac"), Bytes.join(Bytes.row(90, 0, 12, 0, 77, 0),
             Bytes.row(12 << 2 | 2, 97, 2, 0x21, 3), Bytes.stream("1 1 00 00 01 01 1 01 00 1 1 01"), Bytes.row(0)));
+    }
+
+    private static void deepestTree() {
+        // No three bytes twice. a 16, b 10, c 6, d 4, e to i 1 each. Joined: e f, g h, i ef, gh ief, and then
+        // d, c, b and a one by one. LENGTHS 1, 2, 3, 4, 7, 7, 6, 6, 6, so the weights are 7 6 5 4 1 1 2 2 2.
+        // Cells: e 0, f 1, g 2, h 4, i 6, d 8, c 16, b 32, a 64. A LENGTH of 8 would take 67 literals.
+        String text = "baahaacaaeaadbafbdbcabacbbicbabbdadccagaa";
+        String[] codes = {"1", "01", "001", "0001", "0000000", "0000001", "000001", "000010", "000011"};
+        StringBuilder bits = new StringBuilder();
+        for (char c : text.toCharArray()) {
+            bits.append(codes[c - 'a']);
+        }
+        int[] stream = Bytes.stream(bits.toString());
+        packs("a TREE of DEPTH 7", Bytes.text(text), Bytes.join(Bytes.row(90, 0, 41, 0, (9 + stream.length) << 3 | 5, 0),
+            Bytes.row(41 << 2 | 2, 97, 8, 0x76, 0x54, 0x11, 0x22, stream.length), stream, Bytes.row(0)));
     }
 
     private static int kindOf(int[] content) {

@@ -73,6 +73,8 @@ public final class UnpackTest {
         bad("an unknown sign behind a SKIP", 4, Bytes.join(skip, Bytes.row(0)));
         bad("a SKIP without n", 4, Bytes.join(skip, Bytes.row(83)));
         bad("a SKIP cut short", 4, Bytes.join(skip, Bytes.row(83, 3, 0, 0)));
+        bad("a SKIP without n at the end of a full wire", 239,
+            Bytes.join(Bytes.row(83, 237), Bytes.times(0, 237), Bytes.row(83)));
         bad("the first of two faults", 4, Bytes.join(skip, Bytes.row(1), Bytes.row(2)));
         bad("a frame cut short behind frames", 14, Bytes.join(run(5, 2), run(6, 2), Bytes.row(90, 0, 0)));
     }
@@ -152,7 +154,12 @@ public final class UnpackTest {
         good("the whole", wire, Bytes.text("the cat and the hat and the bat and the rat ate the cheese"));
         for (int n = 1; n < length; n++) {
             bad("the first " + n, 0, Arrays.copyOf(wire, n));
+            bad("the first " + n + " at the end of a full wire", 240 - n,
+                Bytes.join(Bytes.row(83, 238 - n), Bytes.times(0, 238 - n), Arrays.copyOf(wire, n)));
         }
+        good("the whole at the end of a full wire",
+            Bytes.join(Bytes.row(83, 238 - length), Bytes.times(0, 238 - length), wire),
+            Bytes.text("the cat and the hat and the bat and the rat ate the cheese"));
     }
 
     private static void plainAndRepeatedLiterals() {
@@ -232,6 +239,9 @@ public final class UnpackTest {
         badPack("a last byte 0", 4, tree, Bytes.row(2, 0x16, 0), none);
         badPack("only a byte 0", 4, tree, Bytes.row(1, 0), none);
         badPack("s beyond the PACK", 4, tree, Bytes.row(3, 0x16), none);
+        int[] beyond = Bytes.frame(4, Bytes.packBlock(true, tree, Bytes.row(2, 0x16)));
+        bad("s beyond a full wire", 240 - beyond.length, Bytes.join(
+            Bytes.row(83, 238 - beyond.length), Bytes.times(0, 238 - beyond.length), beyond));
         goodPack("eight bits", Bytes.row(97, 98, 98, 98, 97, 97, 98, 97),
             Bytes.row(8 << 2 | 2, 97, 1, 0x10, 2, 0x72, 1, 0));
         // The last symbol is found with a 0 behind the last bit.
