@@ -451,17 +451,17 @@ public final class PackFrames {
             for (int k = 0; k < bytesNeeded(); k++) {
                 int b = 0;
                 for (int i = 7; i >= 0; i--) {
-                    b = b << 1 | bitAbove(8 * k + i);
+                    b = b << 1 | bitOver(8 * k + i);
                 }
                 row.add(b);
             }
         }
 
-        private int bitAbove(int lower) {
-            if (lower >= size) {
-                return lower == size ? 1 : 0;
+        private int bitOver(int below) {
+            if (below >= size) {
+                return below == size ? 1 : 0;
             }
-            return bits[size - 1 - lower];
+            return bits[size - 1 - below];
         }
     }
 
@@ -1021,9 +1021,7 @@ public final class PackFrames {
             if (literals.size > 1 && literals.isOneByteOnly()) {
                 body.add(literals.size << 2 | REPEATED);
                 body.add(literals.bytes[0]);
-            } else if (literals.size > 1 && addedWithTree(literals)) {
-                return;
-            } else {
+            } else if (literals.size < 2 || !addedWithTree(literals)) {
                 body.add(literals.size << 2 | PLAIN);
                 body.addRow(literals);
             }
