@@ -105,7 +105,7 @@ public final class PackTest {
     private static void deepestTree() {
         // No three bytes twice. a 16, b 10, c 6, d 4, e to i 1 each. Joined: e f, g h, i ef, gh ief, and then
         // d, c, b and a one by one. LENGTHS 1, 2, 3, 4, 7, 7, 6, 6, 6, so the weights are 7 6 5 4 1 1 2 2 2.
-        // Cells: e 0, f 1, g 2, h 4, i 6, d 8, c 16, b 32, a 64. A LENGTH of 8 would take 67 literals.
+        // Cells: e 0, f 1, g 2, h 4, i 6, d 8, c 16, b 32, a 64. By a search, LENGTH 8 takes 67 literals.
         String text = "baahaacaaeaadbafbdbcabacbbicbabbdadccagaa";
         String[] codes = {"1", "01", "001", "0001", "0000000", "0000001", "000001", "000010", "000011"};
         StringBuilder bits = new StringBuilder();
