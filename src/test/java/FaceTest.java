@@ -12,17 +12,23 @@ public final class FaceTest {
     private static final Checks CHECKS = new Checks();
 
     public static void main(String[] args) throws IllegalAccessException {
+        CHECKS.words("public final class PackFrames { public static final int NONE = -1; public static final int FULL = -2; "
+            + "public PackFrames();");
         CHECKS.due("the class is public and final",
             PackFrames.class.getModifiers(), Modifier.PUBLIC | Modifier.FINAL);
         CHECKS.due("constructors", Arrays.toString(PackFrames.class.getDeclaredConstructors()),
             "[public PackFrames()]");
+        classesInsideAreStatic();
         methodsAreThose();
         fieldsAreThose();
-        classesInsideAreStatic();
         CHECKS.end();
     }
 
     private static void methodsAreThose() {
+        CHECKS.words("public boolean write(int n, long bytes); public void clear(); public int content(int k); "
+            + "public boolean put(int n, long bytes); public void wipe(); public int wire(int k); "
+            + "public boolean spoil(int k, int bits); public int pack(boolean check); public boolean skip(int n); "
+            + "public int unpack(); public int mark(); public int usual(int which, int s, int what);");
         Set<String> visible = new TreeSet<>();
         Set<String> hidden = new TreeSet<>();
         for (Method m : PackFrames.class.getDeclaredMethods()) {
@@ -48,6 +54,7 @@ public final class FaceTest {
     }
 
     private static void fieldsAreThose() throws IllegalAccessException {
+        CHECKS.words("`NONE = -1`: There is none, or it cannot be done. `FULL = -2`: There would be too many bytes.");
         Set<String> visible = new TreeSet<>();
         for (Field f : PackFrames.class.getDeclaredFields()) {
             if (!Modifier.isPrivate(f.getModifiers())) {

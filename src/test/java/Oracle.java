@@ -381,6 +381,26 @@ final class Oracle {
         return frame.out;
     }
 
+    /** The sequences in the first block of a frame, which must be a PACK. */
+    static List<Sequence> sequencesOf(List<Integer> frame) {
+        Frame reader = new Frame(120);
+        Part part = packOf(frame);
+        reader.literals(part);
+        return reader.sequences(part);
+    }
+
+    /** The literals in the first block of a frame, which must be a PACK. */
+    static List<Integer> literalsOf(List<Integer> frame) {
+        return new Frame(120).literals(packOf(frame));
+    }
+
+    private static Part packOf(List<Integer> frame) {
+        must((frame.get(4) >> 1 & 3) == 2);
+        Part part = new Part(frame);
+        part.next(6);
+        return part.next((frame.get(4) >> 3) + 32 * frame.get(5));
+    }
+
     // ---- packing ----
 
     static List<Integer> stream(String bits) {
