@@ -28,6 +28,7 @@ public final class PackTest {
         codesOfM();
         codesOfB();
         leastStatesAndBack();
+        literalsAllTheSame();
         treeOrPlain();
         spanOf16();
         treeShorterThanLiterals();
@@ -395,6 +396,23 @@ public final class PackTest {
             Bytes.stream("1110 0001 0101 01 000 0100 111 1")));
     }
 
+    private static void literalsAllTheSame() {
+        CHECKS.words("LITERALS: 1 if there are two or more and all are the same.");
+        // A match brings no byte that was no literal before, so literals that are all the same make CONTENT a run,
+        // which has TYPE 1: there is no PACK with them. All rows of two bytes up to twelve show it.
+        for (int n = 1; n <= 12; n++) {
+            for (int bits = 0; bits < 1 << n; bits++) {
+                int[] content = Bytes.text(Wires.binary(bits, n));
+                PackFrames x = holding(content);
+                x.pack(false);
+                boolean same = bits == 0 || bits == (1 << n) - 1;
+                CHECKS.due("TYPE 1 for " + Bytes.show(content), (x.wire(4) >> 1 & 3) == 1, same);
+                boolean ones = (x.wire(4) >> 1 & 3) == 2 && (x.wire(6) & 3) == 1;
+                CHECKS.due("LITERALS 1 for " + Bytes.show(content), ones, false);
+            }
+        }
+    }
+
     private static void treeOrPlain() {
         CHECKS.words("Otherwise 2 with a TREE, if the greatest byte is at most 16 above the least, no LENGTH is above 7, "
             + "and TREE, s and STREAM together are shorter than the literals; otherwise 0.");
@@ -461,8 +479,8 @@ public final class PackTest {
         CHECKS.words("no LENGTH is above 7,");
         // No three bytes twice. a 16, b 10, c 6, d 4, e to i 1 each. Joined: e f, g h, i ef, gh ief, and then
         // d, c, b and a one by one. LENGTHS 1, 2, 3, 4, 7, 7, 6, 6, 6, so the weights are 7 6 5 4 1 1 2 2 2.
-        // Cells: e 0, f 1, g 2, h 4, i 6, d 8, c 16, b 32, a 64. By a search, LENGTH 8 takes 67 literals,
-        // so that 7 is the last one that can be seen.
+        // Cells: e 0, f 1, g 2, h 4, i 6, d 8, c 16, b 32, a 64. All COUNTS of up to 17 bytes have been gone through:
+        // LENGTH 7 takes 41 literals and LENGTH 8 takes 67, so that 7 is the last one that can be seen with 63.
         String text = "baahaacaaeaadbafbdbcabacbbicbabbdadccagaa";
         String[] codes = {"1", "01", "001", "0001", "0000000", "0000001", "000001", "000010", "000011"};
         StringBuilder bits = new StringBuilder();
@@ -489,13 +507,30 @@ public final class PackTest {
             CHECKS.due("FIRST", frame.get(7), first);
             CHECKS.due("n", frame.get(8), 16);
         }
+        // Wherever they stand: the one byte 3 or 19 at each place of the literals.
+        int[] middle = Arrays.copyOf(raised(spread(16), 10), 22);
+        for (int place = 0; place <= middle.length; place++) {
+            firstAndN("the least at " + place, with(middle, place, 3), 3, 9);
+            firstAndN("the greatest at " + place, with(middle, place, 19), 10, 9);
+        }
         CHECKS.due("n is 1", treeOf(254, 5, 5), "[254, 1, 16]");
         CHECKS.due("n is 2", treeOf(253, 4, 4, 4), "[253, 2, 17]");
         CHECKS.due("n is 2 from 0 on", treeOf(0, 4, 4, 4), "[0, 2, 17]");
     }
 
+    private static int[] with(int[] row, int place, int b) {
+        return Bytes.join(Arrays.copyOf(row, place), Bytes.row(b), Arrays.copyOfRange(row, place, row.length));
+    }
+
+    private static void firstAndN(String what, int[] content, int first, int n) {
+        List<Integer> frame = frameOf(content);
+        CHECKS.due(what + ", LITERALS", frame.get(6) & 3, 2);
+        CHECKS.due(what + ", FIRST", frame.get(7), first);
+        CHECKS.due(what + ", n", frame.get(8), n);
+    }
+
     private static void equalCounts() {
-        CHECKS.words("again and again the two of least COUNT (of equal ones a byte before what was joined, the lesser byte first, "
+        CHECKS.words("Each byte that is there has its number as a COUNT; again and again the two of least COUNT (of equal ones a byte before what was joined, the lesser byte first, "
             + "the earlier joined first) are joined and have the sum as their COUNT, until all are one; "
             + "a byte's LENGTH is how often it was joined.");
         // a and b are joined, so that c has LENGTH 1: weights 1, 1 and 2.

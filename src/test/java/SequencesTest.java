@@ -198,11 +198,14 @@ public final class SequencesTest {
                 if (a + b == 16) {
                     WIRES.goodPack(a + " and " + b, FOUR, ONE, counts);
                 } else {
+                    // Whichever of the two codes state 0 would have.
                     WIRES.badPack(a + " and " + b, 4, ONE, counts);
+                    WIRES.badPack(a + " and " + b + " for M 4", 5, ONE, counts);
                 }
             }
             // One count is 15 at most, so that it cannot be 16 in all.
             WIRES.badPack(a + " alone", 4, ONE, Bytes.row(1, 0x58, 1, 0, 1, a << 4), Bytes.stream("0000"));
+            WIRES.badPack(a + " alone, without bits", 4, ONE, Bytes.row(1, 0x58, 1, 0, 1, a << 4), NO_BITS);
             // Three counts, and a lower half left.
             int[] three = Bytes.join(Bytes.row(1, 0x58, 1, 0, 3, 0x88, a), Bytes.stream("0000"));
             if (a == 0) {
@@ -219,9 +222,13 @@ public final class SequencesTest {
             WIRES.badPack(n + " counts in one byte", 4, ONE, Bytes.row(1, 0x94, n, 0x88));
             WIRES.badPack(n + " counts for M in one byte", 4, ONE, Bytes.row(1, 0x58, 1, 0, n, 0x88));
         }
-        WIRES.badPack("32 in all", 4, ONE, Bytes.row(1, 0x58, 1, 0, 4, 0x88, 0x88), Bytes.stream("0000"));
-        // 12 times 15 come round to nothing that is 16.
-        WIRES.badPack("180 in all", 4, ONE, Bytes.row(1, 0x58, 1, 0, 12, 255, 255, 255, 255, 255, 255), Bytes.stream("0000"));
+        for (int m = 3; m < 7; m++) {
+            WIRES.badPack("32 in all, M " + m, 1 + m, ONE, Bytes.row(1, 0x58, 1, 0, 4, 0x88, 0x88), Bytes.stream("0000"));
+        }
+        for (int bits = 0; bits < 8; bits++) {
+            WIRES.badPack("180 in all", 26, ONE, Bytes.row(1, 0x58, 1, 0, 12, 255, 255, 255, 255, 255, 255),
+                Bytes.stream("0000" + "0".repeat(bits)));
+        }
     }
 
     private static void latestTables() {
@@ -650,11 +657,11 @@ public final class SequencesTest {
         // R1 and R2 change over each time: 4, 1, 4.
         ways("VALUE 2 three times", nineAndLiterals(1, 3, "0 0 0"), 0, 7, 8, 9, 0, 0, 0, 0, 0, 0, 0, 0);
         ways("VALUE 1 three times, no literal", nineAnd(0, 3, ""), 6, 7, 8, 8, 8, 8, 8, 8, 8);
-        // R3 stays 8 with VALUE 1 and no literal too (4 1 8): behind 1 .. 9, 6, 7, 8, 0 it is 6, 7, 8.
-        WIRES.good("VALUE 1, no literal, and then R3", Bytes.frame(16, Bytes.block(0, false, 9, NINE),
+        // R3 stays 8 with VALUE 1 and no literal too (4 1 8): behind 1 .. 9, 6, 7, 8, 0, 0 it is 7, 8, 9.
+        WIRES.good("VALUE 1, no literal, and then R3", Bytes.frame(17, Bytes.block(0, false, 9, NINE),
             Bytes.packBlock(false, Bytes.row(0), single(1, 0, 0, 0, "")),
-            Bytes.packBlock(true, Bytes.row(1 << 2, 0), single(1, 1, 1, 0, "1"))),
-            Bytes.join(NINE, Bytes.row(6, 7, 8, 0, 6, 7, 8)));
+            Bytes.packBlock(true, Bytes.row(2 << 2 | 1, 0), single(1, 2, 1, 0, "1"))),
+            Bytes.join(NINE, Bytes.row(6, 7, 8, 0, 0, 7, 8, 9)));
         // R3 stays 8: behind 1 .. 9, 0, 7, 8, 9, 0 it is 7, 8, 9.
         ways("VALUE 2 and 3", nineAndLiterals(1, 2, "0 1"), 0, 7, 8, 9, 0, 7, 8, 9);
     }
