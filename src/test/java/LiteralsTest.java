@@ -72,7 +72,8 @@ public final class LiteralsTest {
     }
 
     private static void bitsOfAStream() {
-        CHECKS.words("as a number whose lowest byte stands first it is, in binary, a 1 and then its BITS, the first one highest.");
+        CHECKS.words("as a number whose lowest byte stands first it is, in binary, a 1 and then its BITS, the "
+            + "first one highest.");
         // 1 0111 0010: the bits 0111 0010, and 0x72 stands first.
         WIRES.goodPack("eight bits", Bytes.row(97, 98, 98, 98, 97, 97, 98, 97),
             Bytes.row(8 << 2 | 2), TWO, Bytes.row(2, 0x72, 1), NO_SEQUENCES);
@@ -94,7 +95,8 @@ public final class LiteralsTest {
     }
 
     private static void bitsAsNumbers() {
-        CHECKS.words("They are TAKEN from the first one on; taken n at a time they are a number, the first one highest.");
+        CHECKS.words("They are TAKEN from the first one on; taken n at a time they are a number, the first one "
+            + "highest.");
         // M of code 11: 25 and 7 bits more; L of code 1, B of code 0.
         for (int more : new int[] {0, 1, 2, 64, 65, 94}) {
             WIRES.goodPack(more + " by 7 bits", Bytes.times(97, 26 + more), Bytes.row(1 << 2, 97, 1, 0x54, 1, 0, 11),
@@ -358,7 +360,8 @@ public final class LiteralsTest {
     }
 
     private static void cellsInOrder() {
-        CHECKS.words("The symbols with a weight above 0, those of lesser weight first, of equal ones the lesser symbol, "
+        CHECKS.words("The symbols with a weight above 0, those of lesser weight first, of equal ones the lesser "
+            + "symbol, "
             + "have the next 2 ^ (w - 1) of the CELLS 0 .. 2 ^ DEPTH - 1 each.");
         // Weights 2, 0, 1, 3, 1 and SUM 8, so v is 4 and DEPTH 4: cells 22: 0, 24: 1, 20: 2 and 3, 23: 4 to 7, 25: 8 to 15.
         int[] tree = Bytes.row(20, 5, 0x20, 0x13, 0x10);
@@ -372,7 +375,8 @@ public final class LiteralsTest {
     }
 
     private static void zerosBehind() {
-        CHECKS.words("To take a symbol: it is that in whose cells the next DEPTH bits (with 0s behind the last bit of the STREAM) "
+        CHECKS.words("To take a symbol: it is that in whose cells the next DEPTH bits (with 0s behind the last "
+            + "bit of the STREAM) "
             + "as a number are, and DEPTH + 1 - w bits are taken.");
         WIRES.goodPack("one bit of two left", Bytes.row(51, 50), Wires.treed(2, THREE, "00 1"), NO_SEQUENCES);
         WIRES.goodPack("one bit of seven left", Bytes.row(7, 0), Wires.treed(2, DEEP, "0000001 1"), NO_SEQUENCES);

@@ -101,7 +101,8 @@ public final class PackTest {
     }
 
     private static void addsAFrame() {
-        CHECKS.words("Adds a frame of CONTENT to the wire (with a CHECK, if check), of one block, the last one: how many bytes it has;");
+        CHECKS.words("Adds a frame of CONTENT to the wire (with a CHECK, if check), of one block, the last one: "
+            + "how many bytes it has;");
         packs("nothing", Bytes.row(), 90, 0, 0, 0, 1, 0);
         PackFrames x = new PackFrames();
         CHECKS.due("pack(true) of nothing", x.pack(true), 8);
@@ -234,7 +235,8 @@ public final class PackTest {
     }
 
     private static void longestAndGreatest() {
-        CHECKS.words("from place 0 on, at each place p: of all q below p that one from which most bytes on are the same as from p on "
+        CHECKS.words("from place 0 on, at each place p: of all q below p that one from which most bytes on are "
+            + "the same as from p on "
             + "(up to the end of CONTENT; they may go beyond p), of several the greatest.");
         int[] head = Bytes.join(range(0, 10), Bytes.row(50), range(0, 4), Bytes.row(60));
         // At 16: ten bytes are the same from 0 on, but four from 11 on, which is nearer.
@@ -414,7 +416,8 @@ public final class PackTest {
     }
 
     private static void treeOrPlain() {
-        CHECKS.words("Otherwise 2 with a TREE, if the greatest byte is at most 16 above the least, no LENGTH is above 7, "
+        CHECKS.words("Otherwise 2 with a TREE, if the greatest byte is at most 16 above the least, no LENGTH is "
+            + "above 7, "
             + "and TREE, s and STREAM together are shorter than the literals; otherwise 0.");
         // a 5, b 3, c 4: b and c are joined, then a: weights 2, 1, 1. Cells b 0, c 1, a 2 and 3.
         packs("aabbccacbaac", Bytes.text("aabbccacbaac"), Bytes.join(Bytes.row(90, 0, 12, 0, 77, 0),
@@ -530,7 +533,8 @@ public final class PackTest {
     }
 
     private static void equalCounts() {
-        CHECKS.words("Each byte that is there has its number as a COUNT; again and again the two of least COUNT (of equal ones a byte before what was joined, the lesser byte first, "
+        CHECKS.words("Each byte that is there has its number as a COUNT; again and again the two of least COUNT "
+            + "(of equal ones a byte before what was joined, the lesser byte first, "
             + "the earlier joined first) are joined and have the sum as their COUNT, until all are one; "
             + "a byte's LENGTH is how often it was joined.");
         // a and b are joined, so that c has LENGTH 1: weights 1, 1 and 2.

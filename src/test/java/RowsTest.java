@@ -47,7 +47,8 @@ public final class RowsTest {
     }
 
     private static void rowsAndTheirBytes() {
-        CHECKS.words("CONTENT is a row of at most 120 bytes (0 .. 255), the WIRE one of at most 240, both empty at first.");
+        CHECKS.words("CONTENT is a row of at most 120 bytes (0 .. 255), the WIRE one of at most 240, both empty "
+            + "at first.");
         PackFrames x = new PackFrames();
         CHECKS.due("both at first", both(x), "[] []");
         for (int b = 0; b < 256; b++) {
@@ -104,7 +105,8 @@ public final class RowsTest {
     }
 
     private static void writeRefuses() {
-        CHECKS.words("are added to CONTENT: true; false, changing nothing, if n is not 1 .. 8 or there would be more than 120.");
+        CHECKS.words("are added to CONTENT: true; false, changing nothing, if n is not 1 .. 8 or there would be "
+            + "more than 120.");
         PackFrames x = with(3, 2);
         String before = both(x);
         for (int n : NOT_1_TO_8) {
@@ -181,7 +183,8 @@ public final class RowsTest {
     }
 
     private static void putRefuses() {
-        CHECKS.words("are added to the wire: true; false, changing nothing, if n is not 1 .. 8 or there would be more than 240.");
+        CHECKS.words("are added to the wire: true; false, changing nothing, if n is not 1 .. 8 or there would "
+            + "be more than 240.");
         PackFrames x = with(3, 2);
         String before = both(x);
         for (int n : NOT_1_TO_8) {

@@ -317,7 +317,8 @@ public final class SequencesTest {
     }
 
     private static void widthsAndBases() {
-        CHECKS.words("The states of a code with the count c, from the least on, have x = c, c + 1, ..; WIDTH is the least number "
+        CHECKS.words("The states of a code with the count c, from the least on, have x = c, c + 1, ..; WIDTH is "
+            + "the least number "
             + "for which x << WIDTH is 16 or more, and BASE is (x << WIDTH) - 16.");
         walk(0xF1, FIFTEEN_ONE);
         walk(0x5B, FIVE_ELEVEN);
@@ -454,7 +455,8 @@ public final class SequencesTest {
     }
 
     private static void lengthsOfM() {
-        CHECKS.words("For M of code c: its length is 3 + c for c below 8; for 8, 9, 10, 11 it is 11, 13, 17, 25 and 1, 2, 3, 7 bits more.");
+        CHECKS.words("For M of code c: its length is 3 + c for c below 8; for 8, 9, 10, 11 it is 11, 13, 17, 25 "
+            + "and 1, 2, 3, 7 bits more.");
         int[] least = {3, 4, 5, 6, 7, 8, 9, 10, 11, 13, 17, 25};
         int[] bits = {0, 0, 0, 0, 0, 0, 0, 0, 1, 2, 3, 7};
         for (int c = 0; c < 12; c++) {
@@ -473,7 +475,8 @@ public final class SequencesTest {
     }
 
     private static void lengthsOfL() {
-        CHECKS.words("For L of code c: c itself below 8; for 8, 9, 10, 11 it is 8, 10, 12, 16 and 1, 1, 2, 6 bits more.");
+        CHECKS.words("For L of code c: c itself below 8; for 8, 9, 10, 11 it is 8, 10, 12, 16 and 1, 1, 2, 6 "
+            + "bits more.");
         int[] least = {0, 1, 2, 3, 4, 5, 6, 7, 8, 10, 12, 16};
         int[] bits = {0, 0, 0, 0, 0, 0, 0, 0, 1, 1, 2, 6};
         for (int c = 1; c < 12; c++) {
@@ -512,7 +515,8 @@ public final class SequencesTest {
     }
 
     private static void nextStates() {
-        CHECKS.words("Then, but not after the last sequence, each of L, M, B in this order: the next state is its BASE and WIDTH bits more.");
+        CHECKS.words("Then, but not after the last sequence, each of L, M, B in this order: the next state is "
+            + "its BASE and WIDTH bits more.");
         // L state 4 (1; WIDTH 3, BASE 0), B state 0 (VALUE 1; WIDTH 3, BASE 0), M state 10 (3; WIDTH 2, BASE 0).
         // Then L state 4, M state 1 (5 bytes) and B state 1 (code 2, VALUE 7, four back).
         String two = "0100 0000 1010 100 01 001 11";
@@ -546,7 +550,8 @@ public final class SequencesTest {
     }
 
     private static void enoughBytesBack() {
-        CHECKS.words("the way back is W, and M bytes are put OUT, each being that W bytes before the end of OUT (there must be so many).");
+        CHECKS.words("the way back is W, and M bytes are put OUT, each being that W bytes before the end of OUT "
+            + "(there must be so many).");
         WIRES.goodPack("one of one", Bytes.row(5, 5, 5, 5), Bytes.row(1 << 2, 5), single(1, 1, 2, 0, "00"));
         WIRES.badPack("two of one", 4, Bytes.row(1 << 2, 5), single(1, 1, 2, 0, "01"));
         WIRES.goodPack("two of two", Bytes.row(5, 6, 5, 6, 5), Bytes.row(2 << 2, 5, 6), single(1, 2, 2, 0, "01"));

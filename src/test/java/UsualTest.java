@@ -17,12 +17,14 @@ public final class UsualTest {
     }
 
     private static void everyState() {
-        CHECKS.words("Of state s, 0 .. 15, of a USUAL table (which 0: L and M, 1: B): what 0: its code, 1: its WIDTH, 2: its BASE;");
+        CHECKS.words("Of state s, 0 .. 15, of a USUAL table (which 0: L and M, 1: B): what 0: its code, 1: its "
+            + "WIDTH, 2: its BASE;");
         askAll(new PackFrames());
     }
 
     private static void otherTablesLeaveThem() {
-        CHECKS.words("The counts of the USUAL table for L and for M are 3, 2, 2 and nine times 1, for B eight times 2.");
+        CHECKS.words("The counts of the USUAL table for L and for M are 3, 2, 2 and nine times 1, for B eight "
+            + "times 2.");
         PackFrames x = new PackFrames();
         // Tables of one state and of counts, and then refused ones.
         Bytes.putAll(x, Bytes.frame(4, Bytes.packBlock(true,
